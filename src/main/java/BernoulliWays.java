@@ -327,13 +327,22 @@ public final class BernoulliWays {
             return NONE;
         }
         boolean passesNow = allPass(some);
-        for (int n = 0; n <= top; n++) {
+        int found = NOT_SO_MANY;
+        kept.takeOver(now);
+        for (int n = 0; n <= top && found < 0; n++) {
+            boolean passes = passesNow;
             // an entry that is right leaves all as it stands, so that need not be tested again
-            if (isRight(n) ? passesNow : wouldPass(n, some)) {
-                return n;
+            if (!isRight(n)) {
+                rightOnes.fetch(n, worked);
+                now.store(n, worked);
+                passes = allPass(some);
+                now.takeOver(kept);
+            }
+            if (passes) {
+                found = n;
             }
         }
-        return NOT_SO_MANY;
+        return found;
     }
 
     public int trial(int seed, int n, int some) {
@@ -728,7 +737,7 @@ public final class BernoulliWays {
         }
         long power = 1L << n;
         now.fetch(n, worked);
-        worked.multiply(worked.sign() * power * (power - 1));
+        worked.multiply(now.signOf(n) * power * (power - 1));
         worked.divide(n);
         return worked.above == 0 ? worked.whole : NO;
     }
@@ -913,15 +922,16 @@ public final class BernoulliWays {
         long product = 1;
         for (int i = FIRST_SIEVING; i < FIRST_SIEVING + SIEVING && i < PRIMES.length; i++) {
             int p = PRIMES[i];
-            long gap = Modulo.least(sievedResidue(n, p) - found, p);
+            long residue = Modulo.powerSum(n, p, (long) p * p) / p + inversesBelow(n, p);
+            long gap = Modulo.least(residue - found, p);
             found += product * (gap * Modulo.inverse(product, p) % p);
             product *= p;
         }
         return found > product / 2 ? found - product : found;
     }
 
-    private static long sievedResidue(int n, int p) {
-        long together = Modulo.byPowerSum(n, p);
+    private static long inversesBelow(int n, int p) {
+        long together = 0;
         for (int q : PRIMES) {
             if (isBelow(q, n)) {
                 together += Modulo.inverse(q, p);
@@ -970,15 +980,6 @@ public final class BernoulliWays {
             }
         }
         return true;
-    }
-
-    private boolean wouldPass(int n, int some) {
-        kept.takeOver(now);
-        rightOnes.fetch(n, worked);
-        now.store(n, worked);
-        boolean passes = allPass(some);
-        now.takeOver(kept);
-        return passes;
     }
 
     private void spoilByDraws(int seed, int times) {
@@ -1253,16 +1254,9 @@ public final class BernoulliWays {
             return whole * below + above;
         }
 
-        int sign() {
-            if (whole < 0) {
-                return -1;
-            }
-            return whole == 0 && above == 0 ? 0 : 1;
-        }
-
         /** By long division, as whole * below and above together may be more than a long holds. */
         int oftenAbove(int p) {
-            if (p < 2 || sign() == 0) {
+            if (p < 2 || whole == 0 && above == 0) {
                 return 0;
             }
             long high = whole;
@@ -1300,7 +1294,7 @@ public final class BernoulliWays {
                 greater = less;
                 less = left;
             }
-            return Math.max(greater, 1);
+            return greater > 0 ? greater : 1;
         }
     }
 
@@ -1332,8 +1326,10 @@ public final class BernoulliWays {
         }
 
         int signOf(int n) {
-            fetch(n, spare);
-            return spare.sign();
+            if (wholeOf(n) < 0) {
+                return -1;
+            }
+            return wholeOf(n) == 0 && aboveOf(n) == 0 ? 0 : 1;
         }
 
         void store(int n, Fraction from) {
@@ -1528,14 +1524,14 @@ public final class BernoulliWays {
         }
 
         int kummerOf(int p, int m, int n) {
-            if (!isTold(p, m, n) || (m - n) % (p - 1) != 0) {
+            if (!isTold(p, m) || !isTold(p, n) || (m - n) % (p - 1) != 0) {
                 return NOT_TOLD;
             }
             return (int) Modulo.least(byNumber(m, p) - byNumber(n, p), p);
         }
 
         int kummerTwiceOf(int p, int m, int n) {
-            if (!isTold(p, m, n) || (m - n) % (p * (p - 1)) != 0) {
+            if (!isTold(p, m) || !isTold(p, n) || (m - n) % (p * (p - 1)) != 0) {
                 return NOT_TOLD;
             }
             long square = (long) p * p;
@@ -1544,12 +1540,8 @@ public final class BernoulliWays {
             return (int) Modulo.least(one - other, square);
         }
 
-        /** But for how far m and n are apart. */
-        private boolean isTold(int p, int m, int n) {
-            return p >= LEAST_PRIME && isToldOf(p, m) && isToldOf(p, n);
-        }
-
-        private boolean isToldOf(int p, int n) {
+        /** What KUMMER asks of each of its two numbers. */
+        private boolean isTold(int p, int n) {
             return p > 1 && isEvenFromTwo(n) && n % (p - 1) != 0 && n % p != 0
                 && entries.belowOf(n) % p != 0;
         }

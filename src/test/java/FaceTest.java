@@ -1,0 +1,119 @@
+import java.lang.reflect.Constructor;
+import java.lang.reflect.Field;
+import java.lang.reflect.Method;
+import java.lang.reflect.Modifier;
+import java.nio.file.Files;
+import java.nio.file.Path;
+import java.util.Arrays;
+import java.util.List;
+import java.util.Set;
+import java.util.TreeSet;
+import java.util.stream.Collectors;
+
+/** The document's face and no other, and words that LANGUAGE.md leaves out. */
+public final class FaceTest {
+    private static final String[] FACE = {
+        "int lay(int, int)", "int relay(int, int)", "int spoil(int, int)", "int heal(int)",
+        "long number(int, int)", "int way(int)", "int right(int)", "int agree(int)",
+        "int prime(int, int)", "long whole(int)", "int residue(int, int)", "int byPowers(int, int)",
+        "int memo(int, int)", "int often(int, int)", "int kummer(int, int, int)",
+        "int kummerTwice(int, int, int)", "int tests(int)", "long suspects(int)", "int broken(int)",
+        "int culprit(int)", "int trial(int, int, int)", "long remainder(int, int)",
+        "long triangleAt(int, int, int)", "int whichBelow(int)", "int irregular(int)",
+        "int pair(int, int)", "int second(int)", "int far(int, int)", "int voronoi(int, int, int)",
+        "int byWay(int, int, int)", "int nothings(int, int)", "int harmonic(int)", "int wilson(int)",
+        "int classNumber(int)", "long quadratic(int, int, int)", "int regulars(int)",
+        "long coefficient(int, int, int)", "int sum(int, int)", "int digits(int, int)",
+        "int digit(int, int, int)", "int progression(int, int, int, int)",
+        "long triangular(int, int, int)", "long poly(int, int, int)",
+        "long value(int, int, int, int)", "int at(int, int, int)", "int roots(int, int)",
+        "long zeta(int, int)", "long genocchi(int)", "long onto(int, int)", "long byBoxes(int, int)",
+        "long zigzag(int)", "long tangent(int)", "int growth(int)", "int count(int)"
+    };
+    private static final String[] LEFT_OUT = {
+        "->", "::", "Exact(", "synchronized", "assert ", "finally", "instanceof", "try {", "catch",
+        "double", "float", "System.out", "Random", "Thread", "nanoTime", "protected", "@Override"
+    };
+    private static int wrong = 0;
+
+    public static void main(String[] args) throws Exception {
+        faceIsTheDocuments();
+        nothingElseIsSeen();
+        namesAreTheirOwn();
+        wordsAreAllowed();
+        System.out.println(wrong == 0 ? "the face is as due" : wrong + " faults of the face");
+        if (wrong != 0) {
+            System.exit(1);
+        }
+    }
+
+    private static void must(boolean holds, String what) {
+        if (!holds) {
+            wrong++;
+            System.out.println(what);
+        }
+    }
+
+    private static String told(Method method) {
+        return method.getReturnType().getSimpleName() + " " + method.getName() + Arrays.stream(method.getParameterTypes())
+            .map(Class::getSimpleName).collect(Collectors.joining(", ", "(", ")"));
+    }
+
+    private static void faceIsTheDocuments() {
+        Set<String> due = new TreeSet<>(List.of(FACE));
+        Set<String> seen = new TreeSet<>();
+        for (Method method : BernoulliWays.class.getDeclaredMethods()) {
+            if (Modifier.isPublic(method.getModifiers())) {
+                seen.add(told(method));
+            }
+        }
+        must(due.equals(seen), "the face has " + seen);
+        must(Modifier.isFinal(BernoulliWays.class.getModifiers()), "the class isn't final");
+    }
+
+    private static void nothingElseIsSeen() {
+        for (Method method : BernoulliWays.class.getDeclaredMethods()) {
+            int modifiers = method.getModifiers();
+            must(Modifier.isPublic(modifiers) || Modifier.isPrivate(modifiers), method + " is seen");
+        }
+        for (Field field : BernoulliWays.class.getDeclaredFields()) {
+            must(field.getName().equals("NONE") || Modifier.isPrivate(field.getModifiers()), field + " is seen");
+            must(!Modifier.isStatic(field.getModifiers()) || Modifier.isFinal(field.getModifiers()),
+                field + " isn't final");
+        }
+        Constructor<?>[] constructors = BernoulliWays.class.getDeclaredConstructors();
+        must(constructors.length == 1 && constructors[0].getParameterCount() == 0, "another constructor");
+        for (Class<?> inside : BernoulliWays.class.getDeclaredClasses()) {
+            must(Modifier.isStatic(inside.getModifiers()), inside + " isn't static");
+        }
+        must(BernoulliWays.class.getDeclaredClasses().length <= 12, "too many classes");
+    }
+
+    private static void namesAreTheirOwn() {
+        Set<String> face = new TreeSet<>();
+        for (String method : FACE) {
+            face.add(method.substring(method.indexOf(' ') + 1, method.indexOf('(')));
+        }
+        for (Method method : BernoulliWays.class.getDeclaredMethods()) {
+            must(Modifier.isPublic(method.getModifiers()) || !face.contains(method.getName()),
+                method + " bears a name of the face");
+        }
+        for (Class<?> inside : BernoulliWays.class.getDeclaredClasses()) {
+            for (Method method : inside.getDeclaredMethods()) {
+                must(!face.contains(method.getName()), method + " bears a name of the face");
+                must(method.getParameterCount() <= 7, method + " takes too much");
+            }
+        }
+    }
+
+    private static void wordsAreAllowed() throws Exception {
+        List<String> lines = Files.readAllLines(Path.of("src/main/java/BernoulliWays.java"));
+        Set<String> imports = Set.of("import java.util.Arrays;", "import java.util.NoSuchElementException;");
+        for (String line : lines) {
+            must(!line.startsWith("import ") || imports.contains(line), "not in the library: " + line);
+            for (String word : LEFT_OUT) {
+                must(!line.contains(word), word + " is left out: " + line.trim());
+            }
+        }
+    }
+}
