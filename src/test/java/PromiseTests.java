@@ -372,6 +372,17 @@ public final class PromiseTests {
         due("tests(10), by 4 spoilt", x.tests(10), 4 + 8 + 32);
         due("tests(12), by 4 spoilt", x.tests(12), 4);
         due("tests(14), by 4 spoilt", x.tests(14), 4 + 8);
+        x = laid(38);
+        x.spoil(2, 5);
+        for (int i = 0; i < 8; i++) {
+            x.spoil(2, 9);
+        }
+        // entry 2 is 76 then, 455/6 more: 5, 7 and 13 divide 455, 37 alone tells
+        x.spoil(2, 3);
+        due("number(2, 0)", x.number(2, 0), 76);
+        due("kummer(5, 2, 38)", x.kummer(5, 2, 38), 0);
+        due("kummer(37, 2, 38)", x.kummer(37, 2, 38) > 0 ? 1 : 0, 1);
+        due("tests(38), by 37 alone", x.tests(38), 4 + 8 + 32);
         due("tests(38), not laid", laid(37).tests(38), -2);
         due("tests(39)", x.tests(39), -1);
         due("tests(-1)", x.tests(-1), -1);
@@ -864,6 +875,7 @@ public final class PromiseTests {
         due("genocchi(20)", x.genocchi(20), 1109652905);
         due("genocchi(21)", x.genocchi(21), NO);
         due("genocchi(-1)", x.genocchi(-1), NO);
+        due("genocchi(4), the last one laid", laid(4).genocchi(4), 1);
         due("genocchi(5), not laid", laid(4).genocchi(5), NO);
         x.spoil(8, 1);
         due("genocchi(8), spoilt to 0", x.genocchi(8), 0);
@@ -929,6 +941,7 @@ public final class PromiseTests {
         due("tangent(21)", x.tangent(21), NO);
         due("tangent(24)", x.tangent(24), NO);
         due("tangent(-2)", x.tangent(-2), NO);
+        due("tangent(6), the last one laid", laid(6).tangent(6), 16);
         due("tangent(6), not laid", laid(5).tangent(6), NO);
         x.spoil(10, 1);
         due("tangent(10), spoilt to 1/11", x.tangent(10), NO);
