@@ -55,6 +55,11 @@ public final class ReferenceRuns {
         sweep("coefficient -1..25 -1..27 0..1", 12);
         sweep("poly -1..39 -1..39 0..2", 12);
         sweep("zeta -1..38 0..2", 12);
+        corners();
+        for (int n = 0; n <= 38; n++) {
+            toTheLastCall(n, 9);
+            toTheLastCall(n, -9);
+        }
         System.out.println(compared + " answers compared, " + wrong + " wrong");
         if (wrong != 0) {
             System.exit(1);
@@ -142,6 +147,80 @@ public final class ReferenceRuns {
                 at[last--] = 0;
                 at[last]++;
             }
+        }
+    }
+
+    /**
+     * Each call with all that can be put together of numbers at ends of ranges, and far beyond; asked
+     * of a new table, a short one with a spoilt entry, and a full one with two.
+     */
+    private static void corners() throws Exception {
+        int[] corners = {Integer.MIN_VALUE, -1, 0, 1, 2, 3, 38, 39, 199, Integer.MAX_VALUE};
+        String[] states = {"", "lay 4 1,spoil 3 1,residue 4 199", "lay 38 2,spoil 2 1,spoil 38 -9,residue 0 3"};
+        for (String each : CALLS) {
+            String[] call = each.split(" ");
+            Object[] values = new Object[call.length - 2];
+            int all = (int) Math.pow(corners.length, values.length);
+            for (String state : states) {
+                BernoulliWays real = null;
+                Model model = null;
+                for (int i = 0; i < all; i++) {
+                    if (i % 500 == 0) {
+                        real = new BernoulliWays();
+                        model = new Model();
+                        prepare(state, real, model);
+                    }
+                    for (int k = 0, left = i; k < values.length; k++, left /= corners.length) {
+                        values[k] = corners[left % corners.length];
+                    }
+                    due(call[1] + List.of(values) + " of " + state, answer(real, call[1], values),
+                        answer(model, call[1], values));
+                }
+            }
+        }
+    }
+
+    private static void prepare(String state, BernoulliWays real, Model model) throws Exception {
+        for (String step : state.split(",")) {
+            String[] words = step.split(" ");
+            if (words.length > 1) {
+                answer(real, words[0], valuesOf(words));
+                answer(model, words[0], valuesOf(words));
+            }
+        }
+    }
+
+    private static Object[] valuesOf(String[] words) {
+        Object[] values = new Object[words.length - 1];
+        for (int k = 0; k < values.length; k++) {
+            values[k] = Integer.valueOf(words[k + 1]);
+        }
+        return values;
+    }
+
+    /** One entry spoilt by nearly all calls that an object is for, as far as it goes. */
+    private static void toTheLastCall(int n, int d) throws Exception {
+        BernoulliWays real = new BernoulliWays();
+        Model model = new Model();
+        real.lay(38, 1);
+        model.lay(38, 1);
+        for (int i = 0; i < 485; i++) {
+            real.spoil(n, d);
+            model.spoilOne(n, d);
+        }
+        String spoilt = " of " + n + " spoilt by " + d + " 485 times";
+        String[] calls = {
+            "number " + n + " 0", "number " + n + " 1", "number " + n + " 2", "tests " + n, "tests 38",
+            "suspects 63", "remainder 38 0", "remainder 38 1", "remainder 38 2", "poly 38 " + (38 - n) + " 0",
+            "zeta " + (n - 1) + " 0", "zeta " + (n - 1) + " 1", "often " + n + " 3", "residue " + n + " 199",
+            "coefficient 24 " + (25 - n) + " 0", "sum 24 999999999", "triangular 15 8 0", "value 10 9 6 1",
+            "at 38 198 199", "genocchi " + n, "tangent " + n, "growth " + n, "growth " + (n + 2),
+            "kummerTwice 5 " + n + " 18", "progression 24 1000 1000 999999999", "culprit 63"
+        };
+        for (String call : calls) {
+            String[] words = call.split(" ");
+            Object[] values = valuesOf(words);
+            due(call + spoilt, answer(real, words[0], values), answer(model, words[0], values));
         }
     }
 
@@ -266,9 +345,9 @@ public final class ReferenceRuns {
         }
     }
 
-    private static void due(String call, long got, long want) {
+    private static void due(String call, Object got, Object want) {
         compared++;
-        if (got != want) {
+        if (!got.equals(want)) {
             wrong++;
             System.out.println(call + " answered " + got + ", due is " + want);
         }
