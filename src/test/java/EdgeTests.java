@@ -43,8 +43,12 @@ public final class EdgeTests {
                 }
             }
         }
-        about = "two objects";
+        about = "1: two objects";
         twoObjects();
+        about = "12 on: what is one of the PRIMES";
+        for (int p = -200; p <= 420; p++) {
+            primesAlone(p);
+        }
         System.out.println(asked + " answers and states looked at, " + wrong + " wrong");
         if (wrong != 0) {
             System.exit(1);
@@ -104,7 +108,7 @@ public final class EdgeTests {
 
     private static String dueOf(String word) {
         return switch (word) {
-            case "NONE" -> String.valueOf(BernoulliWays.NONE);
+            case "NONE" -> "-1";
             case "NO" -> String.valueOf(Long.MIN_VALUE);
             default -> word;
         };
@@ -215,6 +219,40 @@ public final class EdgeTests {
         asked++;
         if (other.lay(38, 0) != 39 || other.count(1) != 0 || other.byWay(7, 0, 2) != 6) {
             tell("one object's calls changed what another one answers");
+        }
+    }
+
+    /** Each call that is told a prime is told one of 3 to 199, and of no other number. */
+    private static void primesAlone(int p) {
+        boolean prime = p >= 3 && p <= 199;
+        for (int q = 2; q * q <= p; q++) {
+            prime &= p % q != 0;
+        }
+        BernoulliWays x = new BernoulliWays();
+        x.lay(2, 1);
+        long no = Long.MIN_VALUE;
+        told("residue(0, " + p + ")", prime, x.residue(0, p), -1);
+        told("byPowers(0, " + p + ")", prime, x.byPowers(0, p), -1);
+        told("often(0, " + p + ")", prime, x.often(0, p), -100);
+        told("kummer(" + p + ", 0, 2)", prime, x.kummer(p, 0, 2), -1);
+        told("kummerTwice(" + p + ", 0, 2)", prime, x.kummerTwice(p, 0, 2), -1);
+        told("irregular(" + p + ")", prime, x.irregular(p), -1);
+        told("far(2, " + p + ")", prime, x.far(2, p), -1);
+        told("voronoi(2, 1, " + p + ")", prime, x.voronoi(2, 1, p), -1);
+        told("byWay(" + p + ", 0, 0)", prime, x.byWay(p, 0, 0), -1);
+        told("nothings(" + p + ", 2)", prime, x.nothings(p, 2), -1);
+        told("harmonic(" + p + ")", prime && p >= 5, x.harmonic(p), -1);
+        told("wilson(" + p + ")", prime, x.wilson(p), -1);
+        told("classNumber(" + p + ")", prime && p >= 7 && p % 4 == 3, x.classNumber(p), -1);
+        told("quadratic(" + p + ", 1, 2)", prime, x.quadratic(p, 1, 2), no);
+        told("at(1, 0, " + p + ")", prime, x.at(1, 0, p), -1);
+        told("roots(1, " + p + ")", prime, x.roots(1, p), -1);
+    }
+
+    private static void told(String call, boolean due, long got, long refusal) {
+        asked++;
+        if ((got != refusal) != due) {
+            tell(call + " answered " + got);
         }
     }
 
@@ -453,6 +491,9 @@ public final class EdgeTests {
         lay(4, 1) = 5; residue(4, 7) = 3; spoil(4, 1) = 39; spoil(4, 1) = 39; memo(0, 2) = 3; memo(0, 3) = 0
         count(3) = 1; heal(63) = 1; memo(0, 2) = 3; memo(0, 3) = 1; count(3) = 0; spoil(4, 7) = 39
         memo(0, 3) = 1; count(3) = 0; lay(38, 1) = 34; memo(0, 2) = 3; count(2) = 1
+        # 14: k below 0, of a MEMO that has some
+        lay(2, 1) = 3; residue(2, 7) = 6; memo(-1, 0) = NONE; memo(-1, 1) = NONE; memo(-1, 2) = NONE
+        memo(-1, 3) = NONE; memo(MIN, 3) = NONE; memo(1, 3) = -2; memo(MAX, 3) = -2
         """,
         """
         # 15: no such ones, not laid, 0
@@ -549,6 +590,11 @@ public final class EdgeTests {
         tests(4) = 4; tests(1) = 4; tests(3) = 4; relay(0, 1) = 1; spoil(2, 6) = 36; tests(8) = 44
         tests(38) = 44; tests(36) = 4; relay(2, 1) = 1; spoil(4, 30) = NONE; spoil(4, 6) = 39
         tests(34) = 44; tests(10) = 44; tests(12) = 4
+        # 18: test 8 by the prime 37 alone: 2 is 76 then, 455/6 more, which 5, 7 and 13 divide
+        lay(38, 1) = 39; spoil(2, 5) = 37; spoil(2, 9) = 37; spoil(2, 9) = 37; spoil(2, 9) = 37
+        spoil(2, 9) = 37; spoil(2, 9) = 37; spoil(2, 9) = 37; spoil(2, 9) = 37; spoil(2, 9) = 37
+        spoil(2, 3) = 37; number(2, 0) = 76; kummer(5, 2, 38) = 0; kummer(7, 2, 38) = 0
+        kummer(13, 2, 38) = 0; kummer(37, 2, 38) = 4; tests(38) = 44; tests(26) = 36
         """,
         """
         # 19: the ends of some
@@ -582,6 +628,9 @@ public final class EdgeTests {
         # 21: the least of those by which none would fail
         lay(3, 1) = 4; spoil(3, 1) = 6; culprit(63) = 3; culprit(4) = 3; culprit(1) = 0; culprit(2) = 3
         spoil(2, 1) = 37; culprit(2) = 3; culprit(1) = 2; culprit(63) = -2; culprit(4) = -2
+        # 21: ENTRY 0 must not fail, either
+        lay(3, 1) = 4; spoil(0, 9) = 32; spoil(3, 1) = 6; culprit(34) = -2; culprit(32) = 0; culprit(2) = 3
+        culprit(63) = -2
         """,
         """
         # 22: the ends of seed, n, some; none laid, which goes first
@@ -596,6 +645,9 @@ public final class EdgeTests {
         lay(0, 1) = 1; trial(0, 1, 63) = 1; trial(1, 1, 63) = 1; trial(1, 2, 2) = 1; spoil(0, 9) = 32
         trial(1, 1, 63) = 1; trial(0, 20, 63) = 1; number(0, 0) = 10; way(0) = 3; lay(2, 1) = 2
         trial(12345, 20, 63) = 3; trial(12345, 20, 1) = 2
+        # 22: what is drawn
+        lay(0, 1) = 1; trial(7, 2, 63) = 0; trial(23, 2, 63) = 0; trial(3, 3, 2) = 1; lay(38, 1) = 38
+        trial(1, 2, 1) = 1; trial(10, 1, 1) = 0; trial(12, 1, 1) = 1; trial(5, 2, 1) = 0
         """,
         """
         # 23: the ends of n and what, not laid
@@ -797,6 +849,12 @@ public final class EdgeTests {
         digit(24, -1, 0) = NONE; digit(24, -1, 999) = NONE; digit(25, 0, 0) = NONE; digit(25, 0, 999) = NONE
         digit(-1, 0, 0) = NONE; digit(-1, 0, 999) = NONE; digit(MIN, 0, 0) = NONE; digit(MAX, 0, 0) = NONE
         digit(0, MIN, 0) = NONE; digit(0, MAX, 0) = NONE
+        # 41: digits from the left
+        digit(1, 4, 0) = 1; digit(1, 4, 1) = 0; digit(1, 4, 2) = -2; digit(2, 10, 0) = 3
+        digit(2, 10, 1) = 8; digit(2, 10, 2) = 5; digit(2, 10, 3) = -2; digit(24, 2, 0) = 1
+        digit(24, 2, 1) = 6; digit(24, 2, 6) = 1; digit(24, 2, 7) = 7; digit(24, 2, 8) = -2
+        digit(24, 123456789, 0) = 7; digit(24, 123456789, 100) = 4; digit(24, 123456789, 199) = 0
+        digit(24, 123456789, 200) = 7; digits(24, 123456789) = 201
         """,
         """
         # 42: the ends of m, a, d, N
@@ -880,6 +938,9 @@ public final class EdgeTests {
         value(0, 0, 1, 0) = NO; lay(4, 1) = 5; value(4, 0, 1, 0) = -1; value(4, 0, 1, 1) = 29
         value(5, 0, 1, 0) = NO; value(5, 9, 6, 2) = NO; value(10, 0, 1, 0) = NO; spoil(4, 1) = 39
         value(4, 0, 1, 0) = 0; value(4, 0, 1, 2) = 1; value(3, 1, 2, 0) = 0
+        # 45: n 11, though all is laid
+        lay(38, 1) = 39; value(10, 1, 1, 1) = 5; value(11, 0, 1, 0) = NO; value(11, 9, 6, 2) = NO
+        value(38, 0, 1, 0) = NO
         """,
         """
         # 46: the ends of n, x, p
@@ -973,6 +1034,8 @@ public final class EdgeTests {
         growth(36) = 31; growth(39) = NONE; growth(40) = NONE; spoil(2, 9) = 37; growth(4) = 1
         spoil(2, -9) = 39; growth(4) = 0; spoil(2, 1) = 39; number(2, 0) = -1; growth(4) = 1
         spoil(4, -9) = 37; growth(6) = 0; spoil(16, 9) = 45; growth(16) = 8; growth(18) = 6
+        # 54: odd ones and what is beyond, nothing laid
+        growth(5) = NONE; growth(3) = NONE; growth(39) = NONE; growth(-2) = NONE; growth(36) = -2
         """,
         """
         # 55: the ends of what
