@@ -556,6 +556,9 @@ public final class EdgeTests {
         kummerTwice(8, 3, 4) = NONE; kummerTwice(5, 39, 22) = NONE; kummerTwice(5, 22, 39) = NONE
         kummerTwice(5, -1, 3) = NONE; kummerTwice(5, 2, 6) = -3; lay(22, 1) = 1; kummerTwice(5, 2, 22) = 0
         spoil(22, 1) = 61; kummerTwice(5, 2, 22) = 9; kummerTwice(5, 22, 2) = 16
+        # 17: far beyond
+        lay(38, 1) = 39; kummerTwice(5, MAX, 2) = NONE; kummerTwice(5, 19, -1) = NONE
+        kummerTwice(5, 2, MIN) = NONE; kummerTwice(5, MIN, MIN) = NONE
         """,
         """
         # 18: the ends of n
@@ -617,6 +620,9 @@ public final class EdgeTests {
         # 20: a full table: the last one alone, all from 1 on
         lay(38, 1) = 39; broken(0) = -2; broken(1) = 0; spoil(38, 1) = 61; broken(0) = 38; broken(1) = 1
         broken(2) = NONE; spoil(0, 1) = 32; broken(0) = 1; broken(1) = 38
+        # 20: TEST 4 alone: 1 has a wrong BELOW, but what 0 and 1 make together is 0
+        lay(1, 1) = 2; spoil(0, 1) = 32; broken(0) = 1; broken(1) = 1; spoil(1, -1) = 1; broken(0) = -2
+        broken(1) = 0; lay(2, 1) = 1; broken(0) = 2; broken(1) = 1
         """,
         """
         # 21: the ends of some; none laid
@@ -770,6 +776,8 @@ public final class EdgeTests {
         classNumber(3) = NONE; classNumber(5) = NONE; classNumber(13) = NONE; classNumber(197) = NONE
         classNumber(15) = NONE; classNumber(195) = NONE; classNumber(203) = NONE; classNumber(211) = NONE
         classNumber(2) = NONE; classNumber(-1) = NONE; classNumber(MIN) = NONE; classNumber(MAX) = NONE
+        # 35: beside the ends
+        classNumber(6) = NONE; classNumber(200) = NONE; classNumber(0) = NONE; classNumber(199) = 9
         """,
         """
         # 36: the ends of p, n, what
