@@ -505,6 +505,10 @@ public final class EdgeTests {
         often(0, 0) = -100; often(0, 1) = -100; lay(38, 1) = 34; often(38, 19) = 1; often(38, 3) = -1
         often(38, 199) = 0; often(37, 37) = 100; often(39, 19) = -100; spoil(4, 1) = 39; often(4, 3) = 100
         spoil(3, 9) = 6; often(3, 3) = 2; spoil(3, 9) = 6; spoil(3, 9) = 6; often(3, 3) = 3; count(2) = 0
+        # 15: p divides ABOVE alone, or what WHOLE brings
+        lay(38, 1) = 39; often(10, 5) = 1; often(14, 7) = 1; often(32, 37) = 1; often(38, 19) = 1
+        spoil(0, 8) = 32; often(0, 3) = 2; spoil(0, -9) = 34; often(0, 3) = 100; spoil(0, -9) = 34
+        often(0, 3) = 2
         """,
         """
         # 16: no such p, m, n
@@ -531,6 +535,10 @@ public final class EdgeTests {
         kummer(4, 2, 6) = NONE; kummer(4, 2, 3) = NONE; kummer(5, 39, 6) = NONE; kummer(5, 6, 39) = NONE
         kummer(5, -1, 3) = NONE; kummer(5, -1, 6) = NONE; kummer(5, 5, 5) = -3; kummer(5, 4, 4) = -3
         kummer(5, 2, 2) = 0
+        # 16: p - 1 divides m, n, though p divides their BELOWS no more
+        lay(38, 1) = 39; spoil(4, 1) = 39; spoil(8, 1) = 47; number(4, 2) = 1; number(8, 2) = 1
+        kummer(5, 4, 4) = -3; kummer(5, 4, 8) = -3; kummerTwice(5, 4, 4) = -3; kummer(7, 4, 4) = 0
+        kummer(7, 8, 2) = 4
         """,
         """
         # 17: no such p, m, n
@@ -748,6 +756,12 @@ public final class EdgeTests {
         byWay(199, MAX, 0) = NONE; byWay(2, 0, 0) = NONE; byWay(1, 0, 0) = NONE; byWay(4, 0, 0) = NONE
         byWay(200, 0, 0) = NONE; byWay(211, 0, 0) = NONE; byWay(MIN, 0, 0) = NONE; byWay(MAX, 0, 0) = NONE
         byWay(199, 0, 196) = 63
+        # 31: the triangle, asked first of all
+        byWay(3, 1, 1) = 1; byWay(7, 1, 5) = 0; byWay(7, 1, 4) = 3; byWay(7, 1, 0) = 1
+        byWay(199, 1, 197) = 0; byWay(199, 1, 196) = 63; byWay(5, 1, 3) = 0; byWay(5, 1, 2) = 1
+        # 31: the triangle behind the others
+        byWay(199, 2, 196) = 63; byWay(11, 1, 9) = 0; byWay(11, 1, 8) = 4; byWay(199, 0, 196) = 63
+        byWay(13, 1, 11) = 0; byWay(13, 1, 10) = 5
         """,
         """
         # 32: the ends of p and way
