@@ -2,15 +2,14 @@ import java.lang.reflect.Constructor;
 import java.lang.reflect.Field;
 import java.lang.reflect.Method;
 import java.lang.reflect.Modifier;
-import java.nio.file.Files;
-import java.nio.file.Path;
 import java.util.Arrays;
 import java.util.List;
+import java.util.NoSuchElementException;
 import java.util.Set;
 import java.util.TreeSet;
 import java.util.stream.Collectors;
 
-/** The document's face and no other, and words that LANGUAGE.md leaves out. */
+/** The document's face and no other: its constant, its constructor, its calls. */
 public final class FaceTest {
     private static final String[] FACE = {
         "int lay(int, int)", "int relay(int, int)", "int spoil(int, int)", "int heal(int)",
@@ -30,17 +29,14 @@ public final class FaceTest {
         "long zeta(int, int)", "long genocchi(int)", "long onto(int, int)", "long byBoxes(int, int)",
         "long zigzag(int)", "long tangent(int)", "int growth(int)", "int count(int)"
     };
-    private static final String[] LEFT_OUT = {
-        "->", "::", "Exact(", "synchronized", "assert ", "finally", "instanceof", "try {", "catch",
-        "double", "float", "System.out", "Random", "Thread", "nanoTime", "protected", "@Override"
-    };
     private static int wrong = 0;
 
     public static void main(String[] args) throws Exception {
         faceIsTheDocuments();
         nothingElseIsSeen();
         namesAreTheirOwn();
-        wordsAreAllowed();
+        constantsAreTheDocuments();
+        onlyNumberThrows();
         System.out.println(wrong == 0 ? "the face is as due" : wrong + " faults of the face");
         if (wrong != 0) {
             System.exit(1);
@@ -68,7 +64,10 @@ public final class FaceTest {
             }
         }
         must(due.equals(seen), "the face has " + seen);
-        must(Modifier.isFinal(BernoulliWays.class.getModifiers()), "the class isn't final");
+        int modifiers = BernoulliWays.class.getModifiers();
+        must(Modifier.isPublic(modifiers) && Modifier.isFinal(modifiers), "the class isn't public and final");
+        must(BernoulliWays.class.getSuperclass() == Object.class
+            && BernoulliWays.class.getInterfaces().length == 0, "the class has more above it");
     }
 
     private static void nothingElseIsSeen() {
@@ -82,11 +81,30 @@ public final class FaceTest {
                 field + " isn't final");
         }
         Constructor<?>[] constructors = BernoulliWays.class.getDeclaredConstructors();
-        must(constructors.length == 1 && constructors[0].getParameterCount() == 0, "another constructor");
+        must(constructors.length == 1 && constructors[0].getParameterCount() == 0
+            && Modifier.isPublic(constructors[0].getModifiers()), "another constructor");
         for (Class<?> inside : BernoulliWays.class.getDeclaredClasses()) {
             must(Modifier.isStatic(inside.getModifiers()), inside + " isn't static");
+            must(Modifier.isPrivate(inside.getModifiers()), inside + " is seen");
         }
-        must(BernoulliWays.class.getDeclaredClasses().length <= 12, "too many classes");
+    }
+
+    private static void constantsAreTheDocuments() throws Exception {
+        Field none = BernoulliWays.class.getField("NONE");
+        int constant = Modifier.PUBLIC | Modifier.STATIC | Modifier.FINAL;
+        must(none.getModifiers() == constant && none.getType() == int.class, "NONE is told otherwise");
+        must(none.getInt(null) == -1, "NONE is " + none.getInt(null));
+        must(BernoulliWays.class.getFields().length == 1, "another constant than NONE");
+    }
+
+    private static void onlyNumberThrows() {
+        for (Method method : BernoulliWays.class.getMethods()) {
+            if (method.getDeclaringClass() != BernoulliWays.class) {
+                continue;
+            }
+            List<Class<?>> due = method.getName().equals("number") ? List.of(NoSuchElementException.class) : List.of();
+            must(List.of(method.getExceptionTypes()).equals(due), method + " is told to throw otherwise");
+        }
     }
 
     private static void namesAreTheirOwn() {
@@ -101,18 +119,6 @@ public final class FaceTest {
         for (Class<?> inside : BernoulliWays.class.getDeclaredClasses()) {
             for (Method method : inside.getDeclaredMethods()) {
                 must(!face.contains(method.getName()), method + " bears a name of the face");
-                must(method.getParameterCount() <= 7, method + " takes too much");
-            }
-        }
-    }
-
-    private static void wordsAreAllowed() throws Exception {
-        List<String> lines = Files.readAllLines(Path.of("src/main/java/BernoulliWays.java"));
-        Set<String> imports = Set.of("import java.util.Arrays;", "import java.util.NoSuchElementException;");
-        for (String line : lines) {
-            must(!line.startsWith("import ") || imports.contains(line), "not in the library: " + line);
-            for (String word : LEFT_OUT) {
-                must(!line.contains(word), word + " is left out: " + line.trim());
             }
         }
     }
